@@ -148,6 +148,12 @@ public final class MatchingTest {
         desk.sell(2, 3, 100);
         desk.dueGone("all traded", iceberg);
         Check.due("the rest of the seller", desk.book.shown(1, 100), 2);
+        int small = desk.buyIceberg(0, 7, 99, 3);
+        desk.sell(1, 2, 99);
+        desk.dueResting("one is shown still", small, 5, 99, 1, 0);
+        desk.sell(1, 4, 99);
+        desk.dueResting("one is left", small, 1, 99, 1, 0);
+        desk.cancel(0, small);
         int coming = desk.buyIceberg(3, 12, 100, 3);
         desk.dueResting("comes in, trades, shows its peak", coming, 10, 100, 3, 0);
     }

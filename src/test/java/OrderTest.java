@@ -121,11 +121,13 @@ public final class OrderTest {
         Check.due("a market order fills one", desk.book.market(3), 38);
     }
 
+    /** The messages' numbers are counted here, as asking for them would make it more than 512 calls. */
     private static void atMostTwoHundredAreAccepted() {
         Desk desk = Desk.opening(100, 10);
         for (int i = 0; i < 200; i++) {
-            Check.due("order " + i, desk.buy(i % 4, 1, 1 + i), i);
-            desk.cancel(i % 4, i);
+            int number = 1 + i / 4 * 2;
+            Check.due("order " + i, desk.book.order(i % 4, number, 0, 1, 1 + i), i);
+            Check.due("cancel " + i, desk.book.cancel(i % 4, number + 1, i), 0);
         }
         Check.due("the 201st", desk.buy(0, 1, 1), PhaseBook.REJECTED);
         desk.dueReport("the 201st", 0, 0, Desk.REJECTED, -1, 0, 0);

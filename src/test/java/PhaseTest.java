@@ -222,11 +222,21 @@ public final class PhaseTest {
         Desk desk = Desk.opening(100, 10);
         desk.buy(0, 5, 105);
         desk.sell(1, 5, 95);
-        for (int k = 4; k <= 6; k++) {
-            desk.book.market(k);
-        }
+        Check.due("imbalance alone", desk.book.market(6), 0);
+        desk.buy(2, 3, 105);
+        Check.due("imbalance alone, of now", desk.book.market(6), 3);
+        desk.sell(2, 2, 95);
+        Check.due("volume alone, of now", desk.book.market(5), 7);
+        desk.cancel(2, 2);
+        desk.cancel(2, 3);
         Check.due("LAST", desk.book.market(1), 100);
         Check.due("both are open", desk.book.market(3), 2);
         Check.due("reports", desk.book.session(0, 1), 1);
+        desk.book.phase(2);
+        Check.due("LAST after the auction", desk.book.market(1), 100);
+        dueAuction("after the auction", desk, 0, 0, 0);
+        desk.book.phase(3);
+        desk.sell(1, 5, 95);
+        dueAuction("one side alone", desk, 0, 0, 0);
     }
 }

@@ -5,6 +5,7 @@ public final class SaveCrashTest {
         reportsComeBack();
         savedStateIsItsOwn();
         ranksComeBack();
+        numbersAreGivenAnew();
         feedAndSubscriberGoOn();
         Check.end("SaveCrashTest");
     }
@@ -95,6 +96,28 @@ public final class SaveCrashTest {
         Check.due("behind", desk.book.about(second, 5), 1);
         int third = desk.sell(3, 5, 100);
         Check.due("last", desk.book.about(third, 5), 2);
+    }
+
+    /** Nothing of the order that had the number before the crash is left. */
+    private static void numbersAreGivenAnew() {
+        Desk desk = Desk.continuous(100, 50);
+        int seller = desk.sell(0, 5, 101);
+        desk.book.save();
+        int resting = desk.buy(1, 6, 90);
+        int stop = desk.buyStop(1, 7, 120);
+        desk.book.crash();
+        Check.due("only the seller is open", desk.book.market(3), 1);
+        Check.due("the number again", desk.buy(2, Desk.MARKET, 3, 0), resting);
+        desk.dueGone("traded", resting);
+        Check.due("its owner", desk.book.about(resting, 4), 2);
+        Check.due("the next number again", desk.buy(3, Desk.NOW, 4, 100), stop);
+        desk.dueGone("cancelled", stop);
+        desk.dueResting("the seller", seller, 2, 101, 2, 0);
+        Check.due("only the seller is open still", desk.book.market(3), 1);
+        desk.book.phase(3);
+        desk.book.phase(0);
+        desk.dueReport("the close cancels no one else", 2, 0, Desk.TRADE, resting, 3, 101);
+        desk.dueReport("the close cancels no one else", 3, 0, Desk.CANCELLED, stop, 4, 100);
     }
 
     private static void feedAndSubscriberGoOn() {

@@ -8,6 +8,7 @@ public final class StopTest {
         stopsWaitOutACall();
         aHaltEndsTheRelease();
         stopsAreLookedAtAfterCancelAndReplace();
+        fortyStopsAtOnce();
         Check.end("StopTest");
     }
 
@@ -132,5 +133,16 @@ public final class StopTest {
         Check.due("a dormant one can be cancelled", desk.cancel(0, cancelled), 0);
         desk.dueReport("with no price", 0, 0, Desk.CANCELLED, cancelled, 5, 0);
         desk.dueGone("cancelled", cancelled);
+    }
+
+    private static void fortyStopsAtOnce() {
+        Desk desk = Desk.opening(100, 50);
+        for (int i = 0; i < 40; i++) {
+            desk.buyStop(i % 4, 5, 100);
+        }
+        Check.due("forty are dormant", desk.book.market(3), 40);
+        desk.book.phase(2);
+        Check.due("all came in", desk.book.market(3), 0);
+        desk.dueReport("the last one too", 3, 0, Desk.CANCELLED, 39, 5, 0);
     }
 }

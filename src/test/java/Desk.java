@@ -12,21 +12,55 @@ final class Desk {
     static final int REJECTED = 4;
     static final int REPLACED = 5;
 
+    static final int BUSY_ORDERS = 6;
+    static final int BUSY_ICEBERG = 1;
+    static final int BUSY_DORMANT = 3;
+    static final int BUSY_RESTING = 4;
+    private static final int[][] WAYS = {{}, {1}, {1, 2}, {1, 2, 3}, {1, 2, 4}};
+
     final PhaseBook book;
 
     private Desk(int reference, int band) {
         book = new PhaseBook(reference, band);
     }
 
+    static Desk closed(int reference, int band) {
+        return new Desk(reference, band);
+    }
+
     static Desk opening(int reference, int band) {
-        Desk desk = new Desk(reference, band);
-        Check.due("phase(1)", desk.book.phase(1), true);
-        return desk;
+        return inPhase(1, reference, band);
     }
 
     static Desk continuous(int reference, int band) {
-        Desk desk = opening(reference, band);
-        Check.due("phase(2)", desk.book.phase(2), true);
+        return inPhase(2, reference, band);
+    }
+
+    static Desk inPhase(int phase, int reference, int band) {
+        Desk desk = new Desk(reference, band);
+        for (int p : WAYS[phase]) {
+            Check.due("phase(" + p + ")", desk.book.phase(p), true);
+        }
+        return desk;
+    }
+
+    /**
+     * A market in CONTINUOUS with something of everything: LAST and REFERENCE are 95, orders 0 and 2 are gone, 1 (an
+     * ICEBERG) and 4 (session 0's) and 5 rest, 3 is dormant, another state is saved, the subscriber is behind.
+     */
+    static Desk busy() {
+        Desk desk = opening(100, 20);
+        desk.buy(0, 5, 95);
+        desk.sellIceberg(1, 30, 105, 4);
+        desk.sell(3, 6, 95);
+        desk.buyStop(2, 7, 110);
+        desk.book.save();
+        desk.book.extra(3, 77);
+        desk.book.phase(2);
+        desk.buy(0, 8, 90);
+        desk.buy(2, 3, 95);
+        desk.book.take(0);
+        desk.book.take(1);
         return desk;
     }
 

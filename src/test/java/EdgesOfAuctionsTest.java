@@ -7,8 +7,11 @@ public final class EdgesOfAuctionsTest {
         wholeQuantitiesCount();
         dormantOnesDoNotCount();
         greatestVolume();
+        greatestVolumeBeforeLeastImbalance();
         leastImbalance();
+        leastImbalanceBeforeNearest();
         nearestToReference();
+        nearestToReferenceNotToLast();
         asNearOnBothSides();
         pricesFromOneTo999();
         nothingIsTraded();
@@ -76,6 +79,12 @@ public final class EdgesOfAuctionsTest {
         desk.book.phase(2);
         desk.dueResting("the buyer", 0, 10, 500, 4, 0);
         desk.dueGone("the seller", 1);
+        Desk levels = Desk.opening(500, 10);
+        levels.buyIceberg(0, 40, 499, 4);
+        levels.buy(0, 5, 502);
+        levels.sellIceberg(1, 30, 501, 3);
+        levels.sellIceberg(1, 50, 504, 5);
+        dueAuction("icebergs of other prices", levels, 501, 5, 25);
     }
 
     private static void dormantOnesDoNotCount() {
@@ -106,6 +115,21 @@ public final class EdgesOfAuctionsTest {
         }
     }
 
+    /** At 501 only one less would be traded, with an imbalance of 1 alone; so too at 499 in the mirrored book. */
+    private static void greatestVolumeBeforeLeastImbalance() {
+        Check.sentence("with the greatest volume; of these, with the least imbalance");
+        Desk buyers = Desk.opening(501, 10);
+        buyers.buy(0, 49, 501);
+        buyers.buy(0, 51, 500);
+        buyers.sell(1, 50, 500);
+        dueAuction("more buyers", buyers, 500, 50, 50);
+        Desk sellers = Desk.opening(499, 10);
+        sellers.sell(0, 49, 499);
+        sellers.sell(0, 51, 500);
+        sellers.buy(1, 50, 500);
+        dueAuction("more sellers", sellers, 500, 50, 50);
+    }
+
     private static void leastImbalance() {
         Check.sentence("of these, with the least imbalance");
         int[] references = {1, 500, 502, 999};
@@ -121,6 +145,20 @@ public final class EdgesOfAuctionsTest {
         }
     }
 
+    private static void leastImbalanceBeforeNearest() {
+        Check.sentence("with the least imbalance; of these, the nearest to REFERENCE");
+        Desk below = Desk.opening(490, 10);
+        below.buy(0, 10, 505);
+        below.buy(0, 1, 501);
+        below.sell(1, 10, 490);
+        dueAuction("REFERENCE has one too many", below, 502, 10, 0);
+        Desk above = Desk.opening(510, 10);
+        above.sell(0, 10, 495);
+        above.sell(0, 1, 499);
+        above.buy(1, 10, 510);
+        dueAuction("REFERENCE has one too many", above, 498, 10, 0);
+    }
+
     private static void nearestToReference() {
         Check.sentence("of these, the nearest to REFERENCE");
         int[][] cases = {{1, 500}, {499, 500}, {500, 500}, {501, 501}, {505, 505}, {509, 509}, {510, 510}, {511, 510},
@@ -130,6 +168,30 @@ public final class EdgesOfAuctionsTest {
             desk.buy(0, 10, 510);
             desk.sell(1, 10, 500);
             dueAuction("reference " + c[0], desk, c[1], 10, 0);
+        }
+    }
+
+    private static void nearestToReferenceNotToLast() {
+        Check.sentence("the nearest to REFERENCE");
+        Desk desk = Desk.continuous(500, 20);
+        desk.sell(1, 5, 508);
+        desk.buy(0, 5, 508);
+        desk.book.phase(4);
+        desk.buy(0, 10, 510);
+        desk.sell(1, 10, 490);
+        Check.due("LAST", desk.book.market(1), 508);
+        Check.due("the price alone", desk.book.market(4), 500);
+        desk.book.phase(2);
+        Check.due("LAST", desk.book.market(1), 500);
+        int[] due = {500, 10, 3};
+        for (int k = 2; k >= 0; k--) {
+            Desk fresh = Desk.continuous(500, 20);
+            fresh.sell(1, 5, 508);
+            fresh.buy(0, 5, 508);
+            fresh.book.phase(4);
+            fresh.buy(0, 13, 510);
+            fresh.sell(1, 10, 490);
+            Check.due("market(" + (4 + k) + ") alone", fresh.book.market(4 + k), due[k]);
         }
     }
 

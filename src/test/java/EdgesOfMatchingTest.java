@@ -96,7 +96,8 @@ public final class EdgesOfMatchingTest {
     }
 
     private static void anEqualPriceMeets() {
-        Check.sentence("A price MEETS a LIMIT price if it is not above it (the limit buying) or not below it (selling)");
+        Check.sentence("A price MEETS a LIMIT price if it is not above it (the limit buying)"
+            + " or not below it (selling)");
         int[] kinds = {Desk.LIMIT, Desk.NOW, Desk.WHOLE, Desk.ICEBERG};
         for (int kind : kinds) {
             for (int side = 0; side < 2; side++) {
@@ -126,7 +127,8 @@ public final class EdgesOfMatchingTest {
     }
 
     private static void bestPriceThenForemostRank() {
-        Check.sentence("The BEST is the one with the best price, of those with the same price the one with the foremost rank");
+        Check.sentence("The BEST is the one with the best price,"
+            + " of those with the same price the one with the foremost rank");
         for (int side = 0; side < 2; side++) {
             Desk desk = Desk.continuous(500, 10);
             int far = send(desk, 1, Desk.LIMIT, side, 5, farther(1 - side, 500, 3));
@@ -312,7 +314,8 @@ public final class EdgesOfMatchingTest {
     }
 
     private static void ownOnesAloneLeaveAnEmptySide() {
-        Check.sentence("If it has the same owner, it is cancelled, and matching goes on. If there is none .. matching ends");
+        Check.sentence("If it has the same owner, it is cancelled, and matching goes on."
+            + " If there is none .. matching ends");
         Desk desk = Desk.continuous(500, 10);
         int own = desk.sell(0, 5, 500);
         int taker = desk.buy(0, 5, 500);

@@ -327,8 +327,10 @@ public final class EdgesOfOrdersTest {
         Check.due("accepted", desk.book.save(), 200);
         Check.due("the last one can be replaced", desk.replace(3, 199, 7, 91), 0);
         desk.dueResting("the last one", 199, 7, 91, 7, 0);
-        Check.due("and cancelled", desk.cancel(3, 199), 0);
         Check.due("no order 200", desk.book.about(200, 0), PhaseBook.REFUSED);
+        desk.book.phase(3);
+        Check.due("the close", desk.book.phase(0), true);
+        desk.dueReport("cancels the last one", 3, 0, Desk.CANCELLED, 199, 7, 91);
     }
 
     private static void acceptedAreThoseOfTheState() {

@@ -126,7 +126,8 @@ public final class EdgesOfPhasesTest {
     }
 
     private static void closingIsFed() {
-        Check.sentence("At the end of each call of .. phase .., for each level that shows another sum than at its beginning");
+        Check.sentence("At the end of each call of .. phase ..,"
+            + " for each level that shows another sum than at its beginning");
         Desk desk = Desk.inPhase(3, 500, 10);
         desk.buy(0, 9, 505);
         desk.sell(1, 5, 505);

@@ -19,6 +19,8 @@ public final class EdgesOfSavingTest {
         theLatestSaveCounts();
         ordersOfAfterTheSaveAreNotThere();
         aNewNumberHasNothingOfTheOld();
+        aTradedNumberHasNothingOfTheOld();
+        ordersOfAfterTheSaveAreNotCancelled();
         Check.end("EdgesOfSavingTest");
     }
 
@@ -122,6 +124,7 @@ public final class EdgesOfSavingTest {
         desk.dueResting("before", iceberg, 25, 500, 5, 0);
         desk.book.crash();
         desk.dueResting("after", iceberg, 28, 500, 3, 0);
+        Check.due("the level", desk.book.shown(1, 500), 3);
         desk.buy(1, 3, 500);
         desk.dueResting("its peak", iceberg, 25, 500, 5, 0);
     }
@@ -224,7 +227,8 @@ public final class EdgesOfSavingTest {
     }
 
     private static void crashIsFed() {
-        Check.sentence("At the end of each call of .. crash, for each level that shows another sum than at its beginning");
+        Check.sentence("At the end of each call of .. crash,"
+            + " for each level that shows another sum than at its beginning");
         Desk desk = Desk.opening(500, 10);
         desk.buy(0, 5, 495);
         desk.buy(0, 5, 490);
@@ -317,5 +321,42 @@ public final class EdgesOfSavingTest {
         desk.dueGone("a market order", market);
         Check.due("open", desk.book.market(3), 1);
         Check.due("no seller", desk.book.best(1), 0);
+    }
+
+    /** Numbers that belonged to resting and dormant orders come back for orders that never rest. */
+    private static void aTradedNumberHasNothingOfTheOld() {
+        Check.sentence("The state becomes the saved one");
+        Desk desk = Desk.continuous(500, 10);
+        int seller = desk.sell(3, 50, 505);
+        desk.book.save();
+        desk.buyIceberg(0, 30, 495, 3);
+        desk.buyIceberg(0, 30, 494, 3);
+        desk.buyStop(0, 5, 600);
+        desk.book.crash();
+        int traded = desk.buy(1, Desk.MARKET, 5, 0);
+        int cancelled = desk.buy(1, Desk.NOW, 5, 490);
+        int whole = desk.buy(1, Desk.WHOLE, 5, 505);
+        desk.dueGone("traded", traded);
+        desk.dueGone("cancelled", cancelled);
+        desk.dueGone("traded wholly", whole);
+        desk.dueResting("the seller", seller, 40, 505, 40, 0);
+        Check.due("open", desk.book.market(3), 1);
+        Check.due("levels", desk.book.shown(0, 495) + desk.book.shown(0, 494) + desk.book.shown(0, 490), 0);
+        Check.due("the numbers were given again", whole, 3);
+    }
+
+    private static void ordersOfAfterTheSaveAreNotCancelled() {
+        Check.sentence("With 3 to 0 then all open orders are cancelled; The state becomes the saved one");
+        Desk desk = Desk.inPhase(3, 500, 10);
+        int kept = desk.buy(0, 5, 495);
+        desk.book.save();
+        desk.buy(1, 5, 496);
+        desk.buyStop(2, 5, 600);
+        desk.book.crash();
+        desk.book.phase(0);
+        desk.dueReport("the saved one", 0, 0, Desk.CANCELLED, kept, 5, 495);
+        Check.due("no report", desk.book.session(1, 1), 0);
+        Check.due("no report", desk.book.session(2, 1), 0);
+        Check.due("open", desk.book.market(3), 0);
     }
 }

@@ -93,6 +93,7 @@ public final class EdgesOfStopsTest {
         int stop = desk.buyStop(0, 4, 500);
         desk.dueReport("accepted as a stop", 0, 1, Desk.ACCEPTED, stop, 4, 0);
         desk.dueReport("and traded at once", 0, 0, Desk.TRADE, stop, 4, 505);
+        desk.dueGone("traded wholly", stop);
     }
 
     private static void onlyInContinuous() {

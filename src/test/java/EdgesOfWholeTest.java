@@ -128,6 +128,16 @@ public final class EdgesOfWholeTest {
             desk.dueGone("the one behind", behind);
             desk.dueReport("the own one was cancelled", 0, 1, Desk.CANCELLED, own, 50, at(side, 1));
         }
+        for (int session = 0; session < 4; session++) {
+            Desk desk = Desk.continuous(500, 10);
+            for (int other = 0; other < 4; other++) {
+                desk.sell(other, 5, 500);
+            }
+            desk.buy(session, Desk.WHOLE, 16, 500);
+            Check.due("all but its own, and one: " + session, desk.book.market(3), 4);
+            desk.buy(session, Desk.WHOLE, 15, 500);
+            Check.due("all but its own: " + session, desk.book.market(3), session == 3 ? 1 : 0);
+        }
     }
 
     private static void ownOnesAreCancelledOnlyInMatching() {

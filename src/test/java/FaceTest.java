@@ -77,7 +77,8 @@ public final class FaceTest {
         for (Class<?> c : inside) {
             Check.due(c + " is static", Modifier.isStatic(c.getModifiers()), true);
             Check.due(c + " is not public", Modifier.isPublic(c.getModifiers()), false);
-            long fields = Arrays.stream(c.getDeclaredFields()).filter(f -> !Modifier.isStatic(f.getModifiers())).count();
+            long fields = Arrays.stream(c.getDeclaredFields()).filter(f -> !Modifier.isStatic(f.getModifiers()))
+                .count();
             Check.due(c + " has few fields", fields <= 20, true);
         }
     }

@@ -108,7 +108,7 @@ public final class ReadmeTest {
 
     private static void testsSayHowToRunThem(String tests) throws IOException {
         Check.due("Tests names the script that runs them", tests.contains(".ci/run"), true);
-        Check.due("the script is there", Files.isExecutable(Path.of(".ci/run")), true);
+        Check.due("the script is there", Files.isRegularFile(Path.of(".ci/run")), true);
         Set<String> there;
         try (Stream<Path> files = Files.list(Path.of("src/test/java"))) {
             there = files.map(f -> f.getFileName().toString()).filter(f -> f.endsWith("Test.java"))
